@@ -3,6 +3,7 @@ public final class RoomTest {
     public static void main(String[] args) {
         whatObjectsTake();
         whatIsReachable();
+        entriesAskedFirst();
         ringsOutOfReach();
         usedOverAndOver();
         Check.end();
@@ -60,6 +61,17 @@ public final class RoomTest {
         x.clear(1);
         x.clear(2);
         Check.due("words after get over an object", x.words(), 100);
+    }
+
+    /** entries is asked first here, before another call could have looked at what is reachable. */
+    private static void entriesAskedFirst() {
+        TabledStore x = new TabledStore(100, 20);
+        x.chain(0, 31, 1, 5);
+        Check.due("entries beside five", x.entries(), 15);
+        x.walk(0, 0, 2);
+        Check.due("entries beside three", x.entries(), 17);
+        x.clear(0);
+        Check.due("entries beside none", x.entries(), 20);
     }
 
     private static void ringsOutOfReach() {
