@@ -1,6 +1,6 @@
 /** What the tests share: each answer that is not due is printed, and then the test ends with exit code 1. */
 final class Check {
-    /** A call of a store, to be tried for what it throws. */
+    /** A call of a store, to be tried for what it throws and what it leaves. */
     interface Call {
         void on(TabledStore x);
     }
@@ -10,11 +10,28 @@ final class Check {
         void on(TabledStore x, int r);
     }
 
-    private static final int REGISTERS = 32;
+    /** A call of a store that takes a number of some kind. */
+    interface NumberCall {
+        void on(TabledStore x, int n);
+    }
+
+    /** Makes a store, the same each time. */
+    interface Maker {
+        TabledStore make();
+    }
+
+    private static String sentence = "";
+    private static int sentences = 0;
     private static int wrong = 0;
     private static int looked = 0;
 
     private Check() {
+    }
+
+    /** The document's words that the answers from here on are due by. */
+    static void says(String words) {
+        sentence = words;
+        sentences++;
     }
 
     static void due(String what, long got, long want) {
@@ -29,49 +46,56 @@ final class Check {
         looked++;
         if (!got.equals(want)) {
             wrong++;
-            System.out.println(what + " answered " + got + ", due is " + want);
+            System.out.println("[" + sentence + "] " + what + " answered " + got + ", due is " + want);
         }
-    }
-
-    /**
-     * A store with something of each kind: register 0 an object of 3 slots, 1 one of 10 bytes with that as its class,
-     * 2 the number 42, 3 an object of no slots, 4 one of no bytes; the others nil.
-     */
-    static TabledStore filled() {
-        TabledStore x = new TabledStore(300, 20);
-        x.make(0, 31, 3, true);
-        x.make(1, 0, 10, false);
-        x.bytePut(1, 1, 0x1122334455667788L);
-        x.number(2, 42);
-        x.make(3, 2, 0, true);
-        x.make(4, 3, 0, false);
-        x.put(0, 1, 3);
-        return x;
     }
 
     static void badArgument(String what, Call call) {
-        refused(filled(), what, IllegalArgumentException.class, call);
+        badArgument(Stores::mixed, what, call);
     }
 
-    static void badIndex(String what, Call call) {
-        refused(filled(), what, IndexOutOfBoundsException.class, call);
+    static void badArgument(Maker maker, String what, Call call) {
+        refused(maker, what, IllegalArgumentException.class, call);
     }
 
+    static void badIndex(Maker maker, String what, Call call) {
+        refused(maker, what, IndexOutOfBoundsException.class, call);
+    }
+
+    static void noRoom(Maker maker, String what, Call call) {
+        refused(maker, what, UnsupportedOperationException.class, call);
+    }
+
+    /** The registers just outside 0 .. 31, and those farthest from it. */
     static void badRegister(String what, RegisterCall call) {
-        for (int r : new int[] {-1, 32, 33, Integer.MAX_VALUE, Integer.MIN_VALUE}) {
-            badArgument(what + ", register " + r, x -> call.on(x, r));
+        badNumbers(what + ", register", call::on, -1, 32, Integer.MIN_VALUE, Integer.MAX_VALUE);
+    }
+
+    static void badNumbers(String what, NumberCall call, int... all) {
+        for (int n : all) {
+            badArgument(what + " " + n, x -> call.on(x, n));
         }
     }
 
-    static void noRoom(TabledStore x, String what, Call call) {
-        refused(x, what, UnsupportedOperationException.class, call);
+    /** Each of these numbers is taken by a store of the maker's. */
+    static void taken(Maker maker, String what, NumberCall call, int... all) {
+        for (int n : all) {
+            due(what + " " + n + " throws", thrown(maker.make(), x -> call.on(x, n)), "nothing");
+        }
     }
 
-    /** The call throws just this and changes nothing that can be seen; looking takes most of a store's 512 calls. */
-    private static void refused(TabledStore x, String what, Class<?> exception, Call call) {
-        String before = state(x);
-        due(what + " throws", thrown(x, call), exception.getName());
-        due(what + " leaves", state(x), before);
+    /** The call throws just this, and a store that it was tried on is like one that it was not tried on. */
+    private static void refused(Maker maker, String what, Class<?> exception, Call call) {
+        TabledStore tried = maker.make();
+        due(what + " throws", thrown(tried, call), exception.getName());
+        due(what + " leaves", Picture.of(tried), Picture.of(maker.make()));
+    }
+
+    /** The call throws nothing, and changes nothing either. */
+    static void stays(Maker maker, String what, Call call) {
+        TabledStore tried = maker.make();
+        due(what + " throws", thrown(tried, call), "nothing");
+        due(what + " leaves", Picture.of(tried), Picture.of(maker.make()));
     }
 
     static String thrown(TabledStore x, Call call) {
@@ -83,18 +107,8 @@ final class Check {
         return "nothing";
     }
 
-    /** All that 162 calls tell of a store. */
-    static String state(TabledStore x) {
-        StringBuilder text = new StringBuilder();
-        for (int r = 0; r < REGISTERS; r++) {
-            text.append(x.kind(r)).append(':').append(x.value(r)).append(':').append(x.size(r)).append(':');
-            text.append(x.sum(r)).append(':').append(x.owners(r)).append(' ');
-        }
-        return text.append(x.words()).append(' ').append(x.entries()).toString();
-    }
-
     static void end() {
-        System.out.println(looked + " answers looked at, " + wrong + " wrong");
+        System.out.println(sentences + " sentences, " + looked + " answers looked at, " + wrong + " wrong");
         if (wrong != 0 || looked == 0) {
             System.exit(1);
         }
