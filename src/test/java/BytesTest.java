@@ -1,7 +1,6 @@
 /** Promises 13 byteAt, 14 bytePut, 24 sum. */
 public final class BytesTest {
     private static final int[] OUTSIDE_OF_TEN = {-1, 10, 11, Integer.MIN_VALUE, Integer.MAX_VALUE};
-    private static final String NO_BYTE = "java.lang.IndexOutOfBoundsException";
 
     public static void main(String[] args) {
         byteAt();
@@ -48,8 +47,8 @@ public final class BytesTest {
             x.bytePut(0, n - 1, 0xee00000000000000L);
             Check.due("the last of " + n, x.byteAt(0, n - 1), 0xee);
             Check.due("the first of " + n, x.byteAt(0, 0), n == 1 ? 0xee : 0);
-            Check.due("behind the last of " + n, Check.thrown(x, y -> y.byteAt(0, n)), NO_BYTE);
-            Check.due("before the first of " + n, Check.thrown(x, y -> y.byteAt(0, -1)), NO_BYTE);
+            Check.due("behind the last of " + n, Check.thrown(x, y -> y.byteAt(0, n)), Check.BAD_INDEX);
+            Check.due("before the first of " + n, Check.thrown(x, y -> y.byteAt(0, -1)), Check.BAD_INDEX);
         }
     }
 
@@ -186,8 +185,8 @@ public final class BytesTest {
         Check.badIndex(Stores::mixed, "bytePut of which one would do", x -> x.bytePut(1, -7, -1L));
         TabledStore x = Stores.largest();
         x.make(0, 31, 16000, false);
-        Check.due("bytePut of 16000, byte 15999", Check.thrown(x, y -> y.bytePut(0, 15999, -1L)), "nothing");
-        Check.due("bytePut of 16000, byte 16000", Check.thrown(x, y -> y.bytePut(0, 16000, -1L)), NO_BYTE);
+        Check.due("bytePut of 16000, byte 15999", Check.thrown(x, y -> y.bytePut(0, 15999, -1L)), Check.NOTHING);
+        Check.due("bytePut of 16000, byte 16000", Check.thrown(x, y -> y.bytePut(0, 16000, -1L)), Check.BAD_INDEX);
     }
 
     private static void bytePutFirstNamed() {

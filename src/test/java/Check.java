@@ -20,6 +20,12 @@ final class Check {
         TabledStore make();
     }
 
+    /** What thrown answers. */
+    static final String NOTHING = "nothing";
+    static final String BAD_ARGUMENT = "java.lang.IllegalArgumentException";
+    static final String BAD_INDEX = "java.lang.IndexOutOfBoundsException";
+    static final String NO_ROOM = "java.lang.UnsupportedOperationException";
+
     private static String sentence = "";
     private static int sentences = 0;
     private static int wrong = 0;
@@ -55,15 +61,15 @@ final class Check {
     }
 
     static void badArgument(Maker maker, String what, Call call) {
-        refused(maker, what, IllegalArgumentException.class, call);
+        refused(maker, what, BAD_ARGUMENT, call);
     }
 
     static void badIndex(Maker maker, String what, Call call) {
-        refused(maker, what, IndexOutOfBoundsException.class, call);
+        refused(maker, what, BAD_INDEX, call);
     }
 
     static void noRoom(Maker maker, String what, Call call) {
-        refused(maker, what, UnsupportedOperationException.class, call);
+        refused(maker, what, NO_ROOM, call);
     }
 
     /** The registers just outside 0 .. 31, and those farthest from it. */
@@ -80,21 +86,21 @@ final class Check {
     /** Each of these numbers is taken by a store of the maker's. */
     static void taken(Maker maker, String what, NumberCall call, int... all) {
         for (int n : all) {
-            due(what + " " + n + " throws", thrown(maker.make(), x -> call.on(x, n)), "nothing");
+            due(what + " " + n + " throws", thrown(maker.make(), x -> call.on(x, n)), NOTHING);
         }
     }
 
     /** The call throws just this, and a store that it was tried on is like one that it was not tried on. */
-    private static void refused(Maker maker, String what, Class<?> exception, Call call) {
+    private static void refused(Maker maker, String what, String exception, Call call) {
         TabledStore tried = maker.make();
-        due(what + " throws", thrown(tried, call), exception.getName());
+        due(what + " throws", thrown(tried, call), exception);
         due(what + " leaves", Picture.of(tried), Picture.of(maker.make()));
     }
 
     /** The call throws nothing, and changes nothing either. */
     static void stays(Maker maker, String what, Call call) {
         TabledStore tried = maker.make();
-        due(what + " throws", thrown(tried, call), "nothing");
+        due(what + " throws", thrown(tried, call), NOTHING);
         due(what + " leaves", Picture.of(tried), Picture.of(maker.make()));
     }
 
@@ -104,7 +110,7 @@ final class Check {
         } catch (RuntimeException e) {
             return e.getClass().getName();
         }
-        return "nothing";
+        return NOTHING;
     }
 
     static void end() {

@@ -1,7 +1,5 @@
 /** Promise 6: copy. */
 public final class CopyTest {
-    private static final String NO_ROOM = "java.lang.UnsupportedOperationException";
-
     public static void main(String[] args) {
         slots();
         bytes();
@@ -146,7 +144,7 @@ public final class CopyTest {
         x = new TabledStore(64, 16);
         x.make(0, 31, 40, true);
         for (int turn = 0; turn < 3; turn++) {
-            Check.due("copy without room", Check.thrown(x, y -> y.copy(1, 0)), NO_ROOM);
+            Check.due("copy without room", Check.thrown(x, y -> y.copy(1, 0)), Check.NO_ROOM);
         }
         Check.due("no number was used", x.make(1, 31, 0, true), 2);
     }

@@ -1,7 +1,5 @@
 /** Promise 5: make. */
 public final class MakeTest {
-    private static final String NO_ROOM = "java.lang.UnsupportedOperationException";
-
     public static void main(String[] args) {
         slots();
         bytes();
@@ -106,15 +104,15 @@ public final class MakeTest {
         Check.says("Promise 5: Answers its identity (when it cannot be made no number is used)");
         TabledStore x = Stores.withWordsLeft(8);
         for (int turn = 0; turn < 3; turn++) {
-            Check.due("too many slots", Check.thrown(x, y -> y.make(2, 31, 5, true)), NO_ROOM);
-            Check.due("too many bytes", Check.thrown(x, y -> y.make(2, 31, 17, false)), NO_ROOM);
-            Check.due("no such n", Check.thrown(x, y -> y.make(2, 31, -1, false)), "java.lang.IllegalArgumentException");
+            Check.due("too many slots", Check.thrown(x, y -> y.make(2, 31, 5, true)), Check.NO_ROOM);
+            Check.due("too many bytes", Check.thrown(x, y -> y.make(2, 31, 17, false)), Check.NO_ROOM);
+            Check.due("no such n", Check.thrown(x, y -> y.make(2, 31, -1, false)), Check.BAD_ARGUMENT);
         }
         Check.due("the next that is made", x.make(2, 31, 4, true), 2);
         Check.due("and value of it", x.value(2), 2);
         x = Stores.withoutEntries();
         for (int turn = 0; turn < 3; turn++) {
-            Check.due("without an entry", Check.thrown(x, y -> y.make(25, 31, 0, true)), NO_ROOM);
+            Check.due("without an entry", Check.thrown(x, y -> y.make(25, 31, 0, true)), Check.NO_ROOM);
         }
         x.clear(0);
         Check.due("the next that is made", x.make(25, 31, 0, true), 17);

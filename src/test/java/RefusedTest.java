@@ -103,7 +103,7 @@ public final class RefusedTest {
         all.addAll(List.of(TOO_LARGE));
         TabledStore tried = maker.make();
         for (Check.Call call : all) {
-            Check.due("one after another", Check.thrown(tried, call).equals("nothing"), false);
+            Check.due("one after another", Check.thrown(tried, call).equals(Check.NOTHING), false);
         }
         Check.due("all of them leave", Picture.of(tried), Picture.of(maker.make()));
     }

@@ -32,7 +32,7 @@ public final class RoomTest {
         for (int left : new int[] {4, 5, 30, 56}) {
             TabledStore x = Stores.withWordsLeft(left);
             Check.due("make of one slot more", Check.thrown(x, y -> y.make(2, 31, y.words() - 3, true)),
-                    "java.lang.UnsupportedOperationException");
+                    Check.NO_ROOM);
             Check.due("make of all of them", x.make(2, 31, x.words() - 4, true), 2);
             Check.due("words then", x.words(), 0);
         }

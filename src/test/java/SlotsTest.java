@@ -102,7 +102,7 @@ public final class SlotsTest {
         }
         TabledStore x = Stores.largest();
         x.make(0, 31, 4000, true);
-        Check.due("get of 4000, slot 4000", Check.thrown(x, y -> y.get(1, 0, 4000)), "java.lang.IndexOutOfBoundsException");
+        Check.due("get of 4000, slot 4000", Check.thrown(x, y -> y.get(1, 0, 4000)), Check.BAD_INDEX);
         Check.badIndex(Stores::withoutWords, "get behind the store's last word", y -> y.get(9, 0, 60));
     }
 
@@ -205,7 +205,7 @@ public final class SlotsTest {
         }
         TabledStore x = Stores.largest();
         x.make(0, 31, 4000, true);
-        Check.due("put of 4000, slot 4000", Check.thrown(x, y -> y.put(0, 4000, 1)), "java.lang.IndexOutOfBoundsException");
+        Check.due("put of 4000, slot 4000", Check.thrown(x, y -> y.put(0, 4000, 1)), Check.BAD_INDEX);
         Check.badIndex(Stores::withoutWords, "put behind the store's last word", y -> y.put(0, 60, 1));
     }
 

@@ -34,7 +34,7 @@ final class Stores {
         return withWordsLeft(0);
     }
 
-    /** As many entries left as asked for, and words enough; the objects are in registers 0, 1 and so on, of one slot. */
+    /** As many entries left as asked for, and words enough; objects of one slot are in registers 0, 1 and so on. */
     static TabledStore withEntriesLeft(int left) {
         TabledStore x = new TabledStore(4096, 16);
         x.number(20, 9);

@@ -1,4 +1,5 @@
 import java.math.BigInteger;
+import java.util.Arrays;
 
 /** What sum is due to answer, reckoned with whole numbers of any length and cut to an int at the end alone. */
 final class Sums {
@@ -15,7 +16,7 @@ final class Sums {
 
     static int ofEqualBytes(int many, int each) {
         int[] bytes = new int[many];
-        java.util.Arrays.fill(bytes, each);
+        Arrays.fill(bytes, each);
         return of(bytes);
     }
 }

@@ -230,7 +230,8 @@ public final class TermsTest {
             Check.noRoom(maker, "no slots in " + left + " words", x -> x.make(2, 31, 0, true));
             Check.noRoom(maker, "no bytes in " + left + " words", x -> x.make(2, 31, 0, false));
         }
-        Check.taken(() -> Stores.withEntriesLeft(1), "the last entry, slots", (x, n) -> x.make(18, 31, n, true), 0, 4000);
+        Check.Maker lastEntry = () -> Stores.withEntriesLeft(1);
+        Check.taken(lastEntry, "the last entry, slots", (x, n) -> x.make(18, 31, n, true), 0, 4000);
         Check.noRoom(Stores::withoutEntries, "no entry, no slots", x -> x.make(18, 31, 0, true));
         Check.noRoom(Stores::withoutEntries, "no entry, no bytes", x -> x.make(18, 31, 0, false));
     }
