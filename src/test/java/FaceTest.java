@@ -38,6 +38,7 @@ public final class FaceTest {
     };
 
     public static void main(String[] args) {
+        Check.says("The public face");
         methods();
         constructors();
         fields();

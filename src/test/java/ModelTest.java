@@ -8,7 +8,7 @@ import java.util.TreeMap;
 public final class ModelTest {
     private static final int SMALL_RUNS = 3000;
     private static final int WIDE_RUNS = 25;
-    private static final int CALLS = 510;
+    private static final int CALLS = 512;
     /** The calls and what their arguments are: r a register, i an index, n an amount, b a boolean, l a long. */
     private static final String[] MENU = {
         "number rn", "move rr", "clear r", "make rrnb", "make rrnb", "make rrnb", "make rrnb", "copy rr", "chain rrin",
@@ -36,6 +36,7 @@ public final class ModelTest {
     }
 
     public static void main(String[] args) throws ReflectiveOperationException {
+        Check.says("Promises 1 to 24, to the 512th call");
         for (int run = 0; run < SMALL_RUNS; run++) {
             new ModelTest(run, 64 + run % 150, 16 + run % 9, false).run("small run " + run);
         }

@@ -2,7 +2,7 @@ import java.util.ArrayList;
 import java.util.List;
 
 /**
- * The terms' sentence on exceptions, for every call that names one, in stores of many states.
+ * In stores of many states: every call that names an exception, refused; and every call that only asks.
  * In all of them register 0 has an object of 3 slots, 1 one of 10 bytes, 2 a number, 3 no slots, 4 no bytes, 30 nil.
  */
 public final class RefusedTest {
@@ -49,27 +49,43 @@ public final class RefusedTest {
         x -> x.walk(0, 3, 5), x -> x.walk(0, -1, 5), x -> x.walk(1, 0, 5), x -> x.walk(2, 0, 5), x -> x.walk(30, 0, 5),
         x -> x.walk(0, 1, 0), x -> x.instance(0, 31, 9999), x -> x.instance(30, 2, 5),
         x -> x.instance(2, 31, Integer.MAX_VALUE)};
+    private static final Check.Call[] ASKED = {
+        x -> x.byteAt(1, 0), x -> x.byteAt(1, 9), x -> x.kind(0), x -> x.kind(1), x -> x.kind(2), x -> x.kind(30),
+        x -> x.value(0), x -> x.value(1), x -> x.value(2), x -> x.value(30),
+        x -> x.size(0), x -> x.size(1), x -> x.size(2), x -> x.size(30), x -> x.words(), x -> x.entries(),
+        x -> x.owners(0), x -> x.owners(1), x -> x.owners(2), x -> x.owners(30),
+        x -> x.reaches(0, 0), x -> x.reaches(0, 3), x -> x.reaches(3, 1), x -> x.reaches(1, 4),
+        x -> x.sum(0), x -> x.sum(1), x -> x.sum(4), x -> x.sum(30)};
 
     public static void main(String[] args) {
+        Check.Maker[] open = {Stores::mixed, RefusedTest::untidy, RefusedTest::placesChanged};
+        Check.Maker[] full = {RefusedTest::fullOfWords, RefusedTest::fullOfEntries, RefusedTest::fullAndUntidy};
         Check.says("Terms: a call that throws, or is refused, changes nothing");
-        open(Stores::mixed);
-        open(RefusedTest::untidy);
-        open(RefusedTest::placesChanged);
-        full(RefusedTest::fullOfWords);
-        full(RefusedTest::fullOfEntries);
-        full(RefusedTest::fullAndUntidy);
+        for (Check.Maker maker : open) {
+            refusedInOpenStore(maker);
+        }
+        for (Check.Maker maker : full) {
+            refusedInFullStore(maker);
+        }
+        Check.says("Not promised: Nothing is promised beyond the answers (of calls that only ask)");
+        for (Check.Maker maker : open) {
+            asked(maker);
+        }
+        for (Check.Maker maker : full) {
+            asked(maker);
+        }
         Check.end();
     }
 
     /** A store in which objects can be made, but not the largest. */
-    private static void open(Check.Maker maker) {
+    private static void refusedInOpenStore(Check.Maker maker) {
         refusedInAnyStore(maker);
         Check.due("there is an entry", maker.make().entries() > 0, true);
         Check.due("there are words", maker.make().words() > 40, true);
     }
 
     /** A store in which none can be made. */
-    private static void full(Check.Maker maker) {
+    private static void refusedInFullStore(Check.Maker maker) {
         refusedInAnyStore(maker);
         for (Check.Call call : WITHOUT_ROOM) {
             Check.noRoom(maker, "without room, a call", call);
@@ -95,6 +111,12 @@ public final class RefusedTest {
             Check.stays(maker, "nothing to do " + k, NOTHING_TO_DO[k]);
         }
         oneAfterAnother(maker);
+    }
+
+    private static void asked(Check.Maker maker) {
+        for (int k = 0; k < ASKED.length; k++) {
+            Check.stays(maker, "asked " + k, ASKED[k]);
+        }
     }
 
     private static void oneAfterAnother(Check.Maker maker) {

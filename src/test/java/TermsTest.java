@@ -6,6 +6,7 @@ public final class TermsTest {
     public static void main(String[] args) {
         numbersAtTheirBounds();
         numbersAreNotNilNorObjects();
+        classIsAnyValue();
         slotsAtFirst();
         bytesAtFirst();
         bytesAtTheirBounds();
@@ -56,6 +57,24 @@ public final class TermsTest {
             Check.due("no other value is the same as register " + r, x.owners(r), 1);
         }
         Check.due("nil", x.owners(31), 32 - 1 - numbers.length + 1);
+    }
+
+    /** Register 2 a number, 0 an object of slots, 1 one of bytes, 3 no slots, 4 no bytes, 31 nil. */
+    private static void classIsAnyValue() {
+        Check.says("Terms: An object has a CLASS (any value)");
+        for (int c : new int[] {0, 1, 2, 3, 4, 31}) {
+            for (int r : new int[] {0, 1, 3, 4}) {
+                TabledStore x = Stores.mixed();
+                x.setClass(r, c);
+                x.classOf(9, r);
+                Check.due("kind of the class of " + r, x.kind(9), x.kind(c));
+                Check.due("the class of " + r, x.value(9), x.value(c));
+                x.make(10, c, 1, r % 2 == 0);
+                x.classOf(9, 10);
+                Check.due("kind of the class of a new one", x.kind(9), x.kind(c));
+                Check.due("the class of a new one", x.value(9), x.value(c));
+            }
+        }
     }
 
     private static void slotsAtFirst() {
