@@ -63,8 +63,10 @@ public final class TabledStore {
     public int copy(int r, int from) throws IllegalArgumentException, UnsupportedOperationException {
         needRegister(r);
         needObject(from);
-        int object = memory.buildLike(registers[from], registers);
+        int like = registers[from];
+        int object = memory.build(memory.itsClass(like), memory.shapeOf(like), registers);
         needMade(object);
+        memory.fillLike(object, like);
         setRegister(r, object);
         return memory.identity(object);
     }
@@ -106,7 +108,7 @@ public final class TabledStore {
         needBetween(n, 0, MOST_STEPS);
         int at = registers[r];
         int steps = 0;
-        while (steps < n && memory.holdsSlots(at) && isBetween(i, 0, memory.count(at) - 1)) {
+        while (steps < n && memory.holdsSlot(at, i)) {
             at = memory.slot(at, i);
             steps++;
         }
@@ -220,15 +222,7 @@ public final class TabledStore {
     public int sum(int r) throws IllegalArgumentException {
         needRegister(r);
         int object = registers[r];
-        if (!memory.holdsBytes(object)) {
-            return 0;
-        }
-        int total = 7;
-        int many = memory.count(object);
-        for (int i = 0; i < many; i++) {
-            total = 31 * total + memory.oneByte(object, i);
-        }
-        return total;
+        return memory.holdsBytes(object) ? memory.sumOfBytes(object) : 0;
     }
 
     private void setRegister(int r, int value) {
@@ -305,7 +299,7 @@ public final class TabledStore {
         }
 
         static boolean isObject(int value) {
-            return value != NIL && !isNumber(value);
+            return value != NIL && (value & 1) == 0;
         }
 
         static int toNumber(int value) {
@@ -337,7 +331,7 @@ public final class TabledStore {
         private int spareCount;
         private int lastIdentity;
 
-        /** The entries found reachable in the present round, and by entry the last round that found it. */
+        /** The objects found reachable in the present round, and by entry the last round that found it. */
         private final int[] reached;
         private int reachedCount;
         private final int[] roundOf;
@@ -372,28 +366,54 @@ public final class TabledStore {
             return isOfBytes(shape) ? (count + 3) >> 2 : count;
         }
 
+        /** A word of the row; like every index here its own is looked at first, so that the machine never throws. */
+        private int word(int at) {
+            return at >= 0 && at < row.length ? row[at] : 0;
+        }
+
+        private void setWord(int at, int word) {
+            if (at >= 0 && at < row.length) {
+                row[at] = word;
+            }
+        }
+
+        private void copyWords(int from, int to, int many) {
+            if (from >= 0 && to >= 0 && many >= 0 && many <= row.length - Math.max(from, to)) {
+                System.arraycopy(row, from, row, to, many);
+            }
+        }
+
         private int place(int object) {
-            return places[Value.toEntry(object)];
+            int entry = Value.toEntry(object);
+            return entry >= 0 && entry < places.length ? places[entry] : 0;
+        }
+
+        int shapeOf(int object) {
+            return word(place(object) + SHAPE);
         }
 
         boolean holdsSlots(int value) {
-            return Value.isObject(value) && !isOfBytes(row[place(value) + SHAPE]);
+            return Value.isObject(value) && !isOfBytes(shapeOf(value));
         }
 
         boolean holdsBytes(int value) {
-            return Value.isObject(value) && isOfBytes(row[place(value) + SHAPE]);
+            return Value.isObject(value) && isOfBytes(shapeOf(value));
         }
 
         int count(int object) {
-            return row[place(object) + SHAPE] >> 1;
+            return shapeOf(object) >> 1;
+        }
+
+        boolean holdsSlot(int value, int i) {
+            return holdsSlots(value) && i >= 0 && i < count(value);
         }
 
         int identity(int object) {
-            return row[place(object) + IDENTITY];
+            return word(place(object) + IDENTITY);
         }
 
         int itsClass(int object) {
-            return row[place(object) + CLASS];
+            return word(place(object) + CLASS);
         }
 
         void setItsClass(int object, int value) {
@@ -401,7 +421,7 @@ public final class TabledStore {
         }
 
         int slot(int object, int i) {
-            return row[place(object) + HEADER_WORDS + i];
+            return word(place(object) + HEADER_WORDS + i);
         }
 
         void setSlot(int object, int i, int value) {
@@ -409,14 +429,27 @@ public final class TabledStore {
         }
 
         int oneByte(int object, int i) {
-            int word = row[place(object) + HEADER_WORDS + (i >> 2)];
-            return (word >>> shiftOf(i)) & 255;
+            return byteFrom(place(object) + HEADER_WORDS, i);
+        }
+
+        private int byteFrom(int start, int i) {
+            return (word(start + (i >> 2)) >>> shiftOf(i)) & 255;
+        }
+
+        int sumOfBytes(int object) {
+            int start = place(object) + HEADER_WORDS;
+            int many = count(object);
+            int total = 7;
+            for (int i = 0; i < many; i++) {
+                total = 31 * total + byteFrom(start, i);
+            }
+            return total;
         }
 
         void setOneByte(int object, int i, int value) {
             int at = place(object) + HEADER_WORDS + (i >> 2);
-            int others = row[at] & ~(255 << shiftOf(i));
-            row[at] = others | (value << shiftOf(i));
+            int others = word(at) & ~(255 << shiftOf(i));
+            setWord(at, others | (value << shiftOf(i)));
         }
 
         private static int shiftOf(int i) {
@@ -424,8 +457,8 @@ public final class TabledStore {
         }
 
         private void overwrite(int at, int value) {
-            letGo(row[at]);
-            row[at] = value;
+            letGo(word(at));
+            setWord(at, value);
         }
 
         /** To be told of each value that is overwritten, since its object may be out of reach then. */
@@ -455,33 +488,34 @@ public final class TabledStore {
             spareCount--;
             int entry = spare[spareCount];
             int place = used;
-            used += needed;
+            int end = place + needed;
             lastIdentity++;
-            places[entry] = place;
-            row[place + ENTRY] = entry;
+            seat(entry, place);
             row[place + IDENTITY] = lastIdentity;
             row[place + CLASS] = itsClass;
             row[place + SHAPE] = shape;
-            for (int at = place + HEADER_WORDS; at < used; at++) {
+            for (int at = place + HEADER_WORDS; at < end; at++) {
                 row[at] = 0;
             }
+            used = end;
             return Value.ofEntry(entry);
         }
 
-        /** A new object like another; nil when there is no room for it beside what the roots reach. */
-        int buildLike(int object, int[] roots) {
-            int shape = row[place(object) + SHAPE];
-            int made = build(itsClass(object), shape, roots);
-            if (made != Value.NIL) {
-                // The places are looked up only now, since building may have moved the object.
-                System.arraycopy(row, place(object) + HEADER_WORDS,
-                        row, place(made) + HEADER_WORDS, bodyWords(shape));
-            }
-            return made;
+        /** An object becomes like another of the same shape in its slots or bytes. */
+        void fillLike(int object, int other) {
+            copyWords(place(other) + HEADER_WORDS, place(object) + HEADER_WORDS, bodyWords(shapeOf(other)));
         }
 
+        /** Whether the next spare entry and so many words behind the used ones are there to be written. */
         private boolean fits(int needed) {
-            return spareCount > 0 && needed <= freeWords();
+            return spareCount > 0 && spareCount <= spare.length && used >= 0 && needed <= row.length - used;
+        }
+
+        private void giveBackEntry(int entry) {
+            if (spareCount >= 0 && spareCount < spare.length) {
+                spare[spareCount] = entry;
+                spareCount++;
+            }
         }
 
         /** Two objects change their entries, and with these all that points to them. */
@@ -493,8 +527,10 @@ public final class TabledStore {
         }
 
         private void seat(int entry, int place) {
-            places[entry] = place;
-            row[place + ENTRY] = entry;
+            if (entry >= 0 && entry < places.length) {
+                places[entry] = place;
+            }
+            setWord(place + ENTRY, entry);
         }
 
         /** Drops from the row what the roots do not reach, unless there is no such object. */
@@ -524,7 +560,7 @@ public final class TabledStore {
         }
 
         private boolean isReached(int entry) {
-            return roundOf[entry] == round;
+            return entry >= 0 && entry < roundOf.length && roundOf[entry] == round;
         }
 
         private void reach(int value) {
@@ -532,20 +568,20 @@ public final class TabledStore {
                 return;
             }
             int entry = Value.toEntry(value);
-            if (!isReached(entry)) {
+            if (entry >= 0 && entry < roundOf.length && roundOf[entry] != round && reachedCount < reached.length) {
                 roundOf[entry] = round;
-                reached[reachedCount] = entry;
+                reached[reachedCount] = value;
                 reachedCount++;
             }
         }
 
-        /** Goes on from what is reached to all that it leads to; each entry is reached once at most. */
+        /** Goes on from what is reached to all that it leads to; each object is reached once at most. */
         private void spread() {
             for (int next = 0; next < reached.length && next < reachedCount; next++) {
-                int place = places[reached[next]];
-                reach(row[place + CLASS]);
-                int end = endOfSlots(place);
-                for (int at = place + HEADER_WORDS; at < end; at++) {
+                int place = place(reached[next]);
+                reach(word(place + CLASS));
+                int end = Math.min(endOfSlots(place), row.length);
+                for (int at = Math.max(0, place + HEADER_WORDS); at < end; at++) {
                     reach(row[at]);
                 }
             }
@@ -553,12 +589,12 @@ public final class TabledStore {
 
         /** Behind the last slot of the object at a place; an object of bytes has no slots. */
         private int endOfSlots(int place) {
-            int shape = row[place + SHAPE];
+            int shape = word(place + SHAPE);
             return place + HEADER_WORDS + (isOfBytes(shape) ? 0 : bodyWords(shape));
         }
 
         private int bodyWordsAt(int place) {
-            return bodyWords(row[place + SHAPE]);
+            return bodyWords(word(place + SHAPE));
         }
 
         /** Moves all reached objects to the row's beginning and takes back the entries of the others. */
@@ -569,14 +605,13 @@ public final class TabledStore {
             for (int place = 0; place < end; place += HEADER_WORDS + body) {
                 // Looked up first: moving the object may write over where it was.
                 body = bodyWordsAt(place);
-                int entry = row[place + ENTRY];
+                int entry = word(place + ENTRY);
                 if (isReached(entry)) {
-                    System.arraycopy(row, place, row, used, HEADER_WORDS + body);
-                    places[entry] = used;
+                    copyWords(place, used, HEADER_WORDS + body);
+                    seat(entry, used);
                     used += HEADER_WORDS + body;
                 } else {
-                    spare[spareCount] = entry;
-                    spareCount++;
+                    giveBackEntry(entry);
                 }
             }
         }
@@ -585,9 +620,9 @@ public final class TabledStore {
         int findOfClass(int value, int k) {
             int before = 0;
             for (int place = 0; place < used; place += HEADER_WORDS + bodyWordsAt(place)) {
-                if (row[place + CLASS] == value) {
+                if (word(place + CLASS) == value) {
                     if (before == k) {
-                        return Value.ofEntry(row[place + ENTRY]);
+                        return Value.ofEntry(word(place + ENTRY));
                     }
                     before++;
                 }
@@ -599,10 +634,10 @@ public final class TabledStore {
         int countHolders(int value) {
             int total = 0;
             for (int place = 0; place < used; place += HEADER_WORDS + bodyWordsAt(place)) {
-                if (row[place + CLASS] == value) {
+                if (word(place + CLASS) == value) {
                     total++;
                 }
-                int end = endOfSlots(place);
+                int end = Math.min(endOfSlots(place), row.length);
                 for (int at = place + HEADER_WORDS; at < end; at++) {
                     if (row[at] == value) {
                         total++;
