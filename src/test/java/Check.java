@@ -26,12 +26,31 @@ final class Check {
     static final String BAD_INDEX = "java.lang.IndexOutOfBoundsException";
     static final String NO_ROOM = "java.lang.UnsupportedOperationException";
 
-    private static String sentence = "";
+    /** Far above what any test takes, so that a call that does not end fails its test and does not hang it. */
+    private static final long LONGEST_MILLISECONDS = 300_000;
+
+    private static volatile String sentence = "";
     private static int sentences = 0;
     private static int wrong = 0;
     private static int looked = 0;
 
+    static {
+        Thread watch = new Thread(Check::endWhenTooLong);
+        watch.setDaemon(true);
+        watch.start();
+    }
+
     private Check() {
+    }
+
+    private static void endWhenTooLong() {
+        try {
+            Thread.sleep(LONGEST_MILLISECONDS);
+        } catch (InterruptedException e) {
+            return;
+        }
+        System.out.println("[" + sentence + "] a call does not end");
+        System.exit(1);
     }
 
     /** The document's words that the answers from here on are due by. */
